@@ -2,15 +2,31 @@
 final class Check {
     private static int asked = 0;
     private static int wrong = 0;
+    private static String sentence = "";
+    private static int askedBefore = 0;
 
     private Check() {
+    }
+
+    /** What is asked from here on is asked by this sentence of the document. */
+    static void sentence(String where, String words) {
+        endSentence();
+        sentence = where + " \"" + words + "\": ";
+        askedBefore = asked;
+    }
+
+    // A sentence whose test asks nothing would look like one that holds.
+    private static void endSentence() {
+        if (!sentence.isEmpty() && asked == askedBefore) {
+            holds("something is asked", false);
+        }
     }
 
     static void due(String call, long got, long want) {
         asked++;
         if (got != want) {
             wrong++;
-            System.out.println(call + " answered " + got + ", due is " + want);
+            System.out.println(sentence + call + " answered " + got + ", due is " + want);
         }
     }
 
@@ -18,7 +34,7 @@ final class Check {
         asked++;
         if (!is) {
             wrong++;
-            System.out.println("does not hold: " + what);
+            System.out.println(sentence + "does not hold: " + what);
         }
     }
 
@@ -27,6 +43,7 @@ final class Check {
     }
 
     static void end(String name) {
+        endSentence();
         System.out.println(name + ": " + asked + " answers, " + wrong + " wrong");
         System.exit(wrong == 0 && asked > 0 ? 0 : 1);
     }
