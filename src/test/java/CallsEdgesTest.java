@@ -12,31 +12,32 @@ public final class CallsEdgesTest {
     }
 
     public static void main(String[] args) {
-        newIsEmptyAndUncut();
-        draftFullIfFour();
-        draftAnswersItsWords();
-        scrapEmptiesTheDraft();
-        appendSteps();
-        appendFullIfFour();
-        changeLeavesAnEmptyDraft();
-        changeSteps();
-        changeWithAnEmptyDraft();
-        dropOneStep();
-        dropNoneIfEmpty();
-        swapSteps();
-        swapWithItself();
-        sizeOfBlock();
-        readNoWord();
-        cutAfterWhateverWasSet();
-        cutAfterNot0To40();
-        cancelAnswersTheCount();
-        cancelNone();
-        restartEmptiesAndUnsets();
-        draftedWords();
-        digestWraps();
-        restTimes();
-        nextErasingFails();
-        changeOfEmptyToEmpty();
+        Check.each(
+            CallsEdgesTest::newIsEmptyAndUncut,
+            CallsEdgesTest::draftFullIfFour,
+            CallsEdgesTest::draftAnswersItsWords,
+            CallsEdgesTest::scrapEmptiesTheDraft,
+            CallsEdgesTest::appendSteps,
+            CallsEdgesTest::appendFullIfFour,
+            CallsEdgesTest::changeLeavesAnEmptyDraft,
+            CallsEdgesTest::changeSteps,
+            CallsEdgesTest::changeWithAnEmptyDraft,
+            CallsEdgesTest::dropOneStep,
+            CallsEdgesTest::dropNoneIfEmpty,
+            CallsEdgesTest::swapSteps,
+            CallsEdgesTest::swapWithItself,
+            CallsEdgesTest::sizeOfBlock,
+            CallsEdgesTest::readNoWord,
+            CallsEdgesTest::cutAfterWhateverWasSet,
+            CallsEdgesTest::cutAfterNot0To40,
+            CallsEdgesTest::cancelAnswersTheCount,
+            CallsEdgesTest::cancelNone,
+            CallsEdgesTest::restartEmptiesAndUnsets,
+            CallsEdgesTest::draftedWords,
+            CallsEdgesTest::digestWraps,
+            CallsEdgesTest::restTimes,
+            CallsEdgesTest::nextErasingFails,
+            CallsEdgesTest::changeOfEmptyToEmpty);
         Check.end("CallsEdgesTest");
     }
 
@@ -265,7 +266,9 @@ public final class CallsEdgesTest {
     }
 
     private static void swapSteps() {
-        Check.sentence("7", "Blocks b and c change their words with each other: as many steps as they have words together, and 3");
+        Check.sentence("7",
+            "Blocks b and c change their words with each other: as many steps as they have words together, "
+            + "and 3");
         int[][] pairs = {{0, 1}, {1, 0}, {0, 7}, {7, 0}, {6, 7}, {3, 4}};
         for (int[] pair : pairs) {
             for (int first = 0; first <= 4; first++) {
@@ -450,7 +453,9 @@ public final class CallsEdgesTest {
     }
 
     private static void restartEmptiesAndUnsets() {
-        Check.sentence("12", "The power goes off and comes back at once, between two calls: the draft becomes empty; no cut is set any more.");
+        Check.sentence("12",
+            "The power goes off and comes back at once, between two calls: the draft becomes empty; no cut "
+            + "is set any more.");
         int[] counts = {NO_CUT, 0, 1, 39, 40};
         for (int count : counts) {
             for (int draft = 0; draft <= 4; draft++) {

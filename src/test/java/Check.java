@@ -15,6 +15,17 @@ final class Check {
         askedBefore = asked;
     }
 
+    /** A test that throws counts as wrong, under the sentence that it was at, and the others are still made. */
+    static void each(Runnable... tests) {
+        for (Runnable test : tests) {
+            try {
+                test.run();
+            } catch (RuntimeException | Error thrown) {
+                holds("no call throws: " + thrown, false);
+            }
+        }
+    }
+
     // A sentence whose test asks nothing would look like one that holds.
     private static void endSentence() {
         if (!sentence.isEmpty() && asked == askedBefore) {

@@ -14,20 +14,21 @@ public final class TermsEdgesTest {
     }
 
     public static void main(String[] args) {
-        usedFor512Calls();
-        blocksAreNumbered0To7();
-        blocksHave0To4Words();
-        draftHas0To4Words();
-        cutEmptiesTheDraft();
-        callsThatDoSteps();
-        countOfStepsStillDone();
-        moreStepsThanTheCount();
-        elseTheCountBecomesLess();
-        restAndFailAreNotSeen();
-        badBlockBeforeAnythingElse();
-        noCallThrows();
-        refusedCallChangesNothing();
-        constants();
+        Check.each(
+            TermsEdgesTest::usedFor512Calls,
+            TermsEdgesTest::blocksAreNumbered0To7,
+            TermsEdgesTest::blocksHave0To4Words,
+            TermsEdgesTest::draftHas0To4Words,
+            TermsEdgesTest::cutEmptiesTheDraft,
+            TermsEdgesTest::callsThatDoSteps,
+            TermsEdgesTest::countOfStepsStillDone,
+            TermsEdgesTest::moreStepsThanTheCount,
+            TermsEdgesTest::elseTheCountBecomesLess,
+            TermsEdgesTest::restAndFailAreNotSeen,
+            TermsEdgesTest::badBlockBeforeAnythingElse,
+            TermsEdgesTest::noCallThrows,
+            TermsEdgesTest::refusedCallChangesNothing,
+            TermsEdgesTest::constants);
         Check.end("TermsEdgesTest");
     }
 
@@ -89,7 +90,8 @@ public final class TermsEdgesTest {
     }
 
     private static void blocksHave0To4Words() {
-        Check.sentence("Terms", "A block is EMPTY (it has no words) or has 1 to 4 WORDS (ints), number 0 to its size less 1.");
+        Check.sentence("Terms",
+            "A block is EMPTY (it has no words) or has 1 to 4 WORDS (ints), number 0 to its size less 1.");
         int[] ints = {Integer.MIN_VALUE, Integer.MAX_VALUE, CUT, -1};
         for (int b = 0; b <= 7; b++) {
             FlashVolumes x = new FlashVolumes();
@@ -102,6 +104,10 @@ public final class TermsEdgesTest {
                 Check.due("append(" + b + ", ..)", x.append(b, size < 4 ? ints[size] : 7), size < 4 ? size + 1 : FULL);
             }
             Check.block("no fifth word", x, b, ints);
+            x.drop(b);
+            Check.block("empty again", x, b);
+            x.append(b, 6);
+            Check.block("one word again", x, b, 6);
         }
     }
 
@@ -148,7 +154,9 @@ public final class TermsEdgesTest {
     }
 
     private static void callsThatDoSteps() {
-        Check.sentence("Terms", "A call of append, change, drop or swap does STEPS, as many as said there, one after the other, if it is not refused.");
+        Check.sentence("Terms",
+            "A call of append, change, drop or swap does STEPS, as many as said there, one after the other, "
+            + "if it is not refused.");
         for (Scene.Call call : Scene.stepping()) {
             FlashVolumes x = Scene.made(call.draft(), 40);
             Check.due(call.name(), call.made().applyAsInt(x), call.answer());
@@ -185,10 +193,10 @@ public final class TermsEdgesTest {
         }
         FlashVolumes x = Check.filled(1);
         int done = 0;
-        while (done < 200 && oneStep(x) != CUT) {
+        while (done < 100 && oneStep(x) != CUT) {
             done++;
         }
-        Check.due("with no cut set no step is cut", done, 200);
+        Check.due("with no cut set no step is cut", done, 100);
     }
 
     /** One call that does one step and leaves block 0 with a word. */
@@ -206,7 +214,10 @@ public final class TermsEdgesTest {
     }
 
     private static void moreStepsThanTheCount() {
-        Check.sentence("Terms", "If a call would do more steps than the count, the power is cut in it: the call has no effect on any block, the draft becomes empty, the power comes back at once, no cut is set any more, and the call answers CUT.");
+        Check.sentence("Terms",
+            "If a call would do more steps than the count, the power is cut in it: the call has no effect on"
+            + " any block, the draft becomes empty, the power comes back at once, no cut is set any more, and "
+            + "the call answers CUT.");
         for (Scene.Call call : Scene.stepping()) {
             int steps = call.steps();
             for (int count = 0; count <= steps + 1; count++) {
@@ -280,7 +291,9 @@ public final class TermsEdgesTest {
     }
 
     private static void badBlockBeforeAnythingElse() {
-        Check.sentence("Terms", "In all calls with a block but read, a block number not 0 to 7 answers BAD_ARG before anything else.");
+        Check.sentence("Terms",
+            "In all calls with a block but read, a block number not 0 to 7 answers BAD_ARG before anything "
+            + "else.");
         for (Scene.Call call : Scene.badBlocks()) {
             for (int count : CUTS) {
                 FlashVolumes x = Scene.made(call.draft(), count);
