@@ -19,8 +19,14 @@ public final class ModelTest {
     private void run(int run) {
         FlashVolumes x = new FlashVolumes();
         Model y = new Model();
+        // The model knows neither rest nor fail: in every other run one of them stands before each call.
+        boolean unseen = run % 2 == 0;
         for (int n = 1; n <= CALLS && Check.allDue(); n++) {
-            call("run " + run + ", call " + n + ": ", x, y);
+            if (unseen && n % 2 == 1) {
+                unseen(x);
+            } else {
+                call("run " + run + ", call " + n + ": ", x, y);
+            }
         }
     }
 
@@ -60,8 +66,15 @@ public final class ModelTest {
                 x.restart();
                 y.restart();
             }
-            case 2 -> x.rest(below(24) - 2);
-            default -> x.fail();
+            default -> unseen(x);
+        }
+    }
+
+    private void unseen(FlashVolumes x) {
+        switch (below(3)) {
+            case 0 -> x.fail();
+            case 1 -> x.rest(below(24) - 2);
+            default -> x.rest(EDGES[below(EDGES.length)]);
         }
     }
 

@@ -1,7 +1,7 @@
 import java.util.ArrayList;
 import java.util.List;
 
-/** Each sentence of the document's head and of its "Terms" that names a boundary case, in a method of its own. */
+/** Each sentence of the document's head and of its "Terms", in a method of its own, at its edges. */
 public final class TermsEdgesTest {
     private static final int BAD_ARG = Scene.BAD_ARG;
     private static final int FULL = Scene.FULL;
@@ -28,7 +28,10 @@ public final class TermsEdgesTest {
             TermsEdgesTest::badBlockBeforeAnythingElse,
             TermsEdgesTest::noCallThrows,
             TermsEdgesTest::refusedCallChangesNothing,
-            TermsEdgesTest::constants);
+            TermsEdgesTest::badArgMeans,
+            TermsEdgesTest::fullMeans,
+            TermsEdgesTest::noneMeans,
+            TermsEdgesTest::cutMeans);
         Check.end("TermsEdgesTest");
     }
 
@@ -370,18 +373,58 @@ public final class TermsEdgesTest {
         Scene.allStays("cancel, no cut set", x, 4, NO_CUT);
     }
 
-    private static void constants() {
-        Check.sentence("Terms", "The constants: `BAD_ARG = -1`");
+    private static void badArgMeans() {
+        Check.sentence("Terms", "The constants: `BAD_ARG = -1`: An argument is out of its range.");
         Check.due("BAD_ARG", FlashVolumes.BAD_ARG, -1);
+        for (int b = -1; b <= 8; b++) {
+            boolean out = b < 0 || b > 7;
+            Check.holds("append(" + b + ", 1)", (Scene.made(1, NO_CUT).append(b, 1) == -1) == out);
+            Check.holds("change(" + b + ")", (Scene.made(1, NO_CUT).change(b) == -1) == out);
+            Check.holds("drop(" + b + ")", (Scene.made(1, NO_CUT).drop(b) == -1) == out);
+            Check.holds("swap(" + b + ", 0)", (Scene.made(1, NO_CUT).swap(b, 0) == -1) == out);
+            Check.holds("swap(0, " + b + ")", (Scene.made(1, NO_CUT).swap(0, b) == -1) == out);
+            Check.holds("size(" + b + ")", (Scene.made(1, NO_CUT).size(b) == -1) == out);
+        }
+        for (int k = -2; k <= 42; k++) {
+            Check.holds("cutAfter(" + k + ")", (Scene.made(1, NO_CUT).cutAfter(k) == -1) == (k < 0 || k > 40));
+        }
+        int[] anyInt = {Integer.MIN_VALUE, -1, 0, 4, 8, Integer.MAX_VALUE};
+        for (int word : anyInt) {
+            Check.due("draft(" + word + "): a word has no range", Scene.made(0, NO_CUT).draft(word), 1);
+            Check.due("append(0, " + word + "): a word has no range", Scene.made(0, NO_CUT).append(0, word), 1);
+            Check.due("read(0, " + word + "): not a word of the block", Scene.made(0, NO_CUT).read(0, word), 0);
+        }
+    }
+
+    private static void fullMeans() {
         Check.sentence("Terms", "`FULL = -2`: The block or the draft has four words.");
         Check.due("FULL", FlashVolumes.FULL, -2);
         Check.due("three words in the block", Scene.made(3, NO_CUT).append(2, 1), 4);
         Check.due("four words in the block", Scene.made(3, NO_CUT).append(3, 1), -2);
         Check.due("three words in the draft", Scene.made(3, NO_CUT).draft(1), 4);
         Check.due("four words in the draft", Scene.made(4, NO_CUT).draft(1), -2);
+        Check.due("a full draft is none of a block's", Scene.made(4, NO_CUT).append(2, 1), 4);
+        Check.due("a full block is none of the draft's", Check.filled(4, 4, 4, 4, 4, 4, 4, 4).draft(1), 1);
+    }
+
+    private static void noneMeans() {
         Check.sentence("Terms", "`NONE = -4`: There is no such thing.");
         Check.due("NONE", FlashVolumes.NONE, -4);
+        Check.due("no words to drop", Scene.made(1, NO_CUT).drop(0), -4);
+        Check.due("one word to drop", Scene.made(1, NO_CUT).drop(1), 1);
+        Check.due("no cut to cancel", Scene.made(1, NO_CUT).cancel(), -4);
+        Check.due("a cut to cancel", Scene.made(1, 0).cancel(), 0);
+    }
+
+    private static void cutMeans() {
         Check.sentence("Terms", "`CUT = -9`: The power was cut in the call.");
         Check.due("CUT", FlashVolumes.CUT, -9);
+        for (Scene.Call call : Scene.stepping()) {
+            Check.due(call.name() + ", cut", call.made().applyAsInt(Scene.made(call.draft(), call.steps() - 1)), -9);
+            Check.due(call.name() + ", not cut",
+                call.made().applyAsInt(Scene.made(call.draft(), call.steps())), call.answer());
+            Check.due(call.name() + ", no cut set",
+                call.made().applyAsInt(Scene.made(call.draft(), NO_CUT)), call.answer());
+        }
     }
 }
