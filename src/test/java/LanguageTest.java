@@ -5,7 +5,11 @@ import java.lang.reflect.Method;
 import java.lang.reflect.Modifier;
 import java.nio.file.Files;
 import java.nio.file.Path;
+import java.util.ArrayDeque;
+import java.util.Deque;
+import java.util.Map;
 import java.util.Set;
+import java.util.TreeMap;
 import java.util.TreeSet;
 import java.util.regex.Matcher;
 import java.util.regex.Pattern;
@@ -19,6 +23,7 @@ public final class LanguageTest {
         "int swap(int,int)", "void fail()", "void rest(int)", "void restart()", "void scrap()");
     private static final Set<String> CONSTANTS = Set.of("BAD_ARG", "CUT", "FULL", "NONE");
     private static final Set<String> PLAIN_TYPES = Set.of("int", "long", "short", "byte", "char", "boolean");
+    private static final Set<String> NOT_CALLS = Set.of("if", "for", "while", "switch", "return", "else");
 
     private LanguageTest() {
     }
@@ -26,7 +31,10 @@ public final class LanguageTest {
     public static void main(String[] args) throws IOException {
         face();
         members();
-        words();
+        String text = Files.readString(Path.of("src/main/java/FlashVolumes.java"));
+        String code = text.replaceAll("(?s)/\\*.*?\\*/", " ").replaceAll("//[^\n]*", " ");
+        words(code);
+        calls(code);
         Check.end("LanguageTest");
     }
 
@@ -86,9 +94,7 @@ public final class LanguageTest {
         Check.holds("no nested class", CLASS.getDeclaredClasses().length == 0);
     }
 
-    private static void words() throws IOException {
-        String text = Files.readString(Path.of("src/main/java/FlashVolumes.java"));
-        String code = text.replaceAll("(?s)/\\*.*?\\*/", " ").replaceAll("//[^\n]*", " ");
+    private static void words(String code) {
         Matcher word = Pattern.compile("\\b(package|import|throw|throws|try|catch|finally|synchronized|assert"
             + "|instanceof|null|float|double|String|Math|Integer|Long|System|Arrays|Object|interface|enum|record"
             + "|protected|var|getClass|hashCode|equals|toString|clone|notify|wait)\\b").matcher(code);
@@ -100,5 +106,55 @@ public final class LanguageTest {
         Check.holds("arrays are made in the fields' initialisers alone", code.lastIndexOf("new ") < constructor);
         Check.holds("every array has a length that is a constant",
             !Pattern.compile("new (?!int\\[[A-Z_0-9]+\\];)").matcher(code).find());
+    }
+
+    /** Lengths, depth and nesting, read from the text as it is laid out: a method begins and ends four blanks in. */
+    private static void calls(String code) {
+        Map<String, String> bodies = new TreeMap<>();
+        Matcher method = Pattern.compile(
+            "(?ms)^    (?:public|private) [^;={}]*?(\\w+)\\([^()]*\\) \\{\n(.*?)^    }$").matcher(code);
+        while (method.find()) {
+            bodies.put(method.group(1), method.group(2));
+        }
+        Check.due("methods and constructor found in the text", bodies.size(), CLASS.getDeclaredMethods().length + 1);
+        for (Map.Entry<String, String> entry : bodies.entrySet()) {
+            Check.holds("at most sixty lines: " + entry.getKey(), entry.getValue().lines().count() <= 60);
+            Check.holds("no call inside another's arguments: " + entry.getKey(), !callInCall(entry.getValue()));
+        }
+        // What is still reached after six calls is too deep, or goes round.
+        Set<String> reached = bodies.keySet();
+        for (int deep = 1; deep <= 6; deep++) {
+            reached = called(reached, bodies);
+        }
+        Check.holds("no recursion, and calls at most six deep: " + reached, reached.isEmpty());
+    }
+
+    private static Set<String> called(Set<String> callers, Map<String, String> bodies) {
+        Set<String> names = new TreeSet<>();
+        for (String caller : callers) {
+            for (String name : bodies.keySet()) {
+                if (Pattern.compile("\\b" + name + "\\(").matcher(bodies.get(caller)).find()) {
+                    names.add(name);
+                }
+            }
+        }
+        return names;
+    }
+
+    private static boolean callInCall(String body) {
+        Matcher bracket = Pattern.compile("(\\w*)\\s*([()])").matcher(body);
+        Deque<Boolean> open = new ArrayDeque<>();
+        while (bracket.find()) {
+            if (bracket.group(2).equals(")")) {
+                open.pop();
+            } else {
+                boolean call = !bracket.group(1).isEmpty() && !NOT_CALLS.contains(bracket.group(1));
+                if (call && open.contains(true)) {
+                    return true;
+                }
+                open.push(call);
+            }
+        }
+        return false;
     }
 }
